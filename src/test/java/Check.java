@@ -1,4 +1,5 @@
 import java.nio.charset.StandardCharsets;
+import java.util.function.Supplier;
 
 /** What the tests share: telling texts to a street, and noting each answer that is not the one due. */
 final class Check {
@@ -39,10 +40,10 @@ final class Check {
     }
 
     /** The call throws just this class, and by a throw statement of AllSawIt itself. */
-    static void refused(String what, Class<? extends RuntimeException> kind, Call call) {
+    static void refused(String what, Class<? extends RuntimeException> kind, Supplier<?> call) {
         asked++;
         try {
-            long got = call.answer();
+            Object got = call.get();
             note(what + " answered " + got + ", due is " + kind.getSimpleName());
         } catch (RuntimeException e) {
             if (e.getClass() != kind) {
