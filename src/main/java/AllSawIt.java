@@ -408,15 +408,7 @@ public final class AllSawIt {
     // ---- who sees alike, and what ----
 
     public int twins() {
-        int pairs = 0;
-        for (int a = 0; a < state.houses; a++) {
-            for (int b = a + 1; b < state.houses; b++) {
-                if (Sight.alike(state, law, a, b)) {
-                    pairs++;
-                }
-            }
-        }
-        return pairs;
+        return sight.pairsAlike(state, law);
     }
 
     public int eyes(int hour) throws IndexOutOfBoundsException {
@@ -1472,7 +1464,18 @@ public final class AllSawIt {
         private static void doFreeDeeds(State s, Law law) {
             for (int d = 0; d < s.deeds; d++) {
                 if (!s.isSo(d) && s.isFree(d)) {
-                    s.addSeen(d, Sight.witnessBits(s, law, s.ofDeed(d, State.PLACE), s.ofDeed(d, State.HOUR)));
+                    showDeed(s, law, d);
+                }
+            }
+        }
+
+        // Those who saw it stay so, and need not look again.
+        private static void showDeed(State s, Law law, int deed) {
+            int place = s.ofDeed(deed, State.PLACE);
+            int hour = s.ofDeed(deed, State.HOUR);
+            for (int h = 0; h < s.houses; h++) {
+                if (!s.hasSeen(h, deed) && law.lets(s, h, place, hour)) {
+                    s.addSeen(deed, 1 << h);
                 }
             }
         }
@@ -1549,15 +1552,6 @@ public final class AllSawIt {
             return count;
         }
 
-        static boolean alike(State s, Law law, int a, int b) {
-            for (int hour = 0; hour < HOURS; hour++) {
-                if (placeBits(s, law, a, hour) != placeBits(s, law, b, hour)) {
-                    return false;
-                }
-            }
-            return true;
-        }
-
         static int bestSpot(State s, Law law) {
             int most = NONE;
             int spot = NONE;
@@ -1584,12 +1578,41 @@ public final class AllSawIt {
             return Math.min(longest, HOURS);
         }
 
-        int fewestEyes(State s, Law law, int hour) {
+        /** Fills the views of all houses in an hour, and tells what they see together. */
+        private int lookOut(State s, Law law, int hour) {
             int all = 0;
             for (int h = 0; h < s.houses && h < views.length; h++) {
                 views[h] = placeBits(s, law, h, hour);
                 all |= views[h];
             }
+            return all;
+        }
+
+        int pairsAlike(State s, Law law) {
+            int pairs = s.houses * (s.houses - 1) / 2;
+            long parted = 0;
+            for (int hour = 0; hour < HOURS; hour++) {
+                lookOut(s, law, hour);
+                parted |= pairsParted(s.houses);
+            }
+            return pairs - Long.bitCount(parted);
+        }
+
+        // A pair is the bit of 8 times the one and the other.
+        private long pairsParted(int houses) {
+            long parted = 0;
+            for (int a = 0; a < houses && a < views.length; a++) {
+                for (int b = 0; b < a; b++) {
+                    if (views[a] != views[b]) {
+                        parted |= 1L << (MOST_HOUSES * a + b);
+                    }
+                }
+            }
+            return parted;
+        }
+
+        int fewestEyes(State s, Law law, int hour) {
+            int all = lookOut(s, law, hour);
             int best = s.allHouses();
             // From the least set on: a later one must be smaller to be better.
             for (int set = 0; set <= s.allHouses(); set++) {

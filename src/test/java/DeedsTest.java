@@ -296,6 +296,18 @@ public final class DeedsTest {
             parted |= fewest < most;
         }
         Check.yes("seeds matter", parted);
+        // The second draws of the seeds 1 to 6, modulo 10: 8, 7, 7, 6, 7, 5.
+        AllSawIt y = Check.street("house 1 sees 0 to 9 up 0 for 24 spite 8;deed 1 at 1");
+        y.seed(99);
+        Check.due("seed 1 alone lets it speak", y.span(1, true), 1);
+        Check.due("the others do not", y.span(1, false), 0);
+        y.spite(0, 6);
+        Check.due("seed 6 alone does not", y.span(1, false), 0);
+        Check.due("the others do", y.span(1, true), 1);
+        y.spite(0, 5);
+        Check.due("all do", y.span(1, false), 1);
+        y.spite(0, 9);
+        Check.due("none does", y.span(1, true), 0);
         Check.due("seed stays", x.seed(1), seed);
         for (int odd : ODD) {
             Check.refused("n", NO_NUMBER, () -> x.span(odd, false));

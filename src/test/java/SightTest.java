@@ -93,6 +93,8 @@ public final class SightTest {
         Check.due("away, and never up", x.wake(4, 9), 3);
         Check.due("it stays as it is", x.witnesses(4, 9), 4);
         Check.due("away as it was", x.count(7), 1);
+        x.mirror(0);
+        Check.due("with its mirrors", x.wake(6, 9), 3);
         AllSawIt y = Check.street(THREE + ";away 0", "see if not up or away");
         Check.due("by a law that wants them asleep or away", y.wake(0, 9), 0);
         AllSawIt z = Check.street(THREE + ";away 0", "see if up and hour > 9;blind if away");
@@ -118,6 +120,10 @@ public final class SightTest {
         Check.due("one is there", x.mirrors(8, 9), 2);
         Check.due("3 at most in all", x.mirrors(9, 9), -1);
         Check.due("it stays as it is", x.count(8), 1);
+        x.away(2, true);
+        Check.due("one away never sees it", x.mirrors(4, 9), -1);
+        x.away(2, false);
+        Check.due("one back sees it", x.mirrors(4, 9), 0);
         AllSawIt y = Check.street(THREE, "see if not window");
         Check.due("by a law that wants none", y.mirrors(12, 9), -1);
         Check.due("by a law that wants none", y.mirrors(13, 9), 0);
@@ -197,6 +203,8 @@ public final class SightTest {
         Check.due("4 apart", y.clear(8, 0), 8);
         Check.due("12 apart", y.clear(16, 0), 0);
         Check.due("13 apart", y.clear(17, 0), -1);
+        x.mirror(0);
+        Check.due("with its mirrors", x.clear(6, 9), 8);
         AllSawIt z = Check.street("house 4 sees 0 to 23 up 0 for 24;mists 9", "see if fog > 2 and fog < 5;see if fog < 1");
         z.seed(4);
         z.days(3);
@@ -223,6 +231,10 @@ public final class SightTest {
         AllSawIt y = Check.street("house 1 sees 0 to 23 up 0 for 24;house 2 sees 0 to 14 up 0 for 24;"
                 + "house 1 sees 0 to 13 up 5 for 24");
         Check.due("what is too far does not count", y.twins(), 1);
+        y.up(2, 1, 23);
+        Check.due("they part in the first hour", y.twins(), 0);
+        y.up(2, 0, 23);
+        Check.due("they part in the last hour", y.twins(), 0);
     }
 
     private static void eyes() {
@@ -253,9 +265,16 @@ public final class SightTest {
         Check.due("2", x.alone(9, 2), places(10, 12));
         Check.due("by night", x.alone(0, -1), places(2, 12));
         Check.due("by night, one asleep", x.alone(0, 0), 0);
+        Check.due("two of three see it", x.alone(8, -1), places(0, 1) | places(10, 12));
+        x.away(2, true);
+        Check.due("without the last", x.alone(9, -1), places(0, 2) | places(6, 9));
+        x.away(2, false);
         x.lodger(2);
         x.lodger(2);
         Check.due("three see it", x.alone(9, -1), places(0, 1));
+        AllSawIt y = Check.street("house 4 sees 0 to 5 up 0 for 24;house 4 sees 3 to 9 up 0 for 24;"
+                + "house 12 sees 12 to 14 up 0 for 24");
+        Check.due("the first two see it", y.alone(0, -1), places(0, 2) | places(6, 9) | places(12, 14));
         for (int odd : ODD) {
             Check.refused("hour", NO_SUCH, () -> x.alone(odd, 0));
             Check.refused("hour, all", NO_SUCH, () -> x.alone(odd, -1));

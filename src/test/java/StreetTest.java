@@ -346,6 +346,10 @@ public final class StreetTest {
             y.days(60);
         }
         Check.due("9999 at most", y.count(4), 9999);
+        AllSawIt empty = Check.street("deed 3 at 7;deed 3 at 8 hangs 0");
+        Check.due("nobody says a word", empty.days(9), 0);
+        Check.due("nothing is so without houses", empty.book(false), 0);
+        Check.due("nor ahead", empty.ahead(9, 0), 0);
         AllSawIt z = Check.street("house 1 sees 0 to 9 up 0 for 24;house 2 sees 0 to 9 up 0 for 24;deed 3 at 7;away 1");
         Check.due("one away is silent", z.days(5), 1);
         Check.due("and it is not so", z.book(false), 0);

@@ -185,11 +185,16 @@ public final class TextsTest {
         wrongStreet("mists 1 mists 1", 8);
         wrongStreet("mists 1x", 7);
         wrongStreet("mistsx 1", 0);
+        wrongStreet("mistsz 1", 0);
+        wrongStreet("mists 1az", 7);
+        wrongStreet("fists 1", 0);
         wrongStreet("Mists 1", 0);
         wrongStreet("miSts 1", 0);
         wrongStreet("mists\t1", 5);
         wrongStreet("mists 1\0", 7);
         wrongStreet("\u00e9", 0);
+        wrongStreet("mists", 5);
+        wrongStreet("away", 4);
         wrongStreet("away 0", 5);
         wrongStreet(HOUSE + ";away 1", 36);
         wrongStreet("away 0;" + HOUSE, 5);
