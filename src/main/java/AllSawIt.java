@@ -186,11 +186,11 @@ public final class AllSawIt {
 
     public boolean away(int house, boolean is) throws IndexOutOfBoundsException {
         needHouse(house);
-        // A house that stays as it is neither goes nor comes: that is no act.
+        // An act also when the house stays as it is: false tells that nothing changed, not that nothing was done.
+        acts.remember(state);
         if (state.isAway(house) == is) {
             return false;
         }
-        acts.remember(state);
         state.away ^= 1 << house;
         return true;
     }

@@ -17,6 +17,7 @@ public final class MemoryTest {
         seed();
         undo();
         undoAll();
+        undoIdle();
         forgotten();
         image();
         count();
@@ -218,6 +219,42 @@ public final class MemoryTest {
             Check.due("undone", x.undo(), true);
             Check.due("act " + i + " undone", all(x), was[i]);
         }
+    }
+
+    /** An act that leaves all as it was is remembered and undone as each other one. */
+    private static void undoIdle() {
+        Check.part("promise 41, acts that change nothing");
+        AllSawIt x = Check.street(TWO);
+        x.mirror(0);
+        long was = all(x);
+        Runnable[] acts = {() -> x.away(1, false), () -> x.up(0, x.house(0, 3), x.house(0, 4)),
+            () -> x.spite(0, x.house(0, 5)), () -> x.away(0, false)};
+        for (int i = 0; i < acts.length; i++) {
+            acts[i].run();
+            Check.due("idle act " + i + " changes nothing", all(x), was);
+            Check.due("idle act " + i + " counts", x.count(12), i + 2);
+        }
+        for (int i = acts.length; i > 0; i--) {
+            Check.due("idle act undone", x.undo(), true);
+            Check.due("the mirror stays", x.count(8), 1);
+            Check.due("one act fewer", x.count(12), i);
+        }
+        Check.due("the mirror undone", x.undo(), true);
+        Check.due("the mirror is gone", x.count(8), 0);
+        x.mirror(0);
+        for (int i = 0; i < 12; i++) {
+            Check.due("stays where it is", x.away(i % 2, false), false);
+        }
+        for (int i = 0; i < 12; i++) {
+            x.undo();
+        }
+        Check.due("12 idle acts push the mirror out", x.undo(), false);
+        Check.due("the mirror stays", x.count(8), 1);
+        x.seed(77);
+        x.away(0, false);
+        x.seed(78);
+        x.undo();
+        Check.due("the SEED is as ahead of the idle act", x.seed(1), 77);
     }
 
     private static void forgotten() {

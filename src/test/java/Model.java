@@ -649,12 +649,10 @@ final class Model {
     }
 
     boolean away(int house, boolean is) {
-        if (houseAt(house).away == is) {
-            return false;
-        }
+        boolean was = houseAt(house).away;
         act();
         world.houses.get(house).away = is;
-        return true;
+        return was != is;
     }
 
     int mirror(int house) {

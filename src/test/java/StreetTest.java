@@ -226,11 +226,12 @@ public final class StreetTest {
         Check.due("comes back", x.away(1, false), true);
         Check.due("is back", x.away(1, false), false);
         Check.due("bits", x.count(7), 0);
-        Check.due("what changes nothing is no act", x.count(12), 2);
+        Check.due("what changes nothing is an act, too", x.count(12), 4);
         for (int odd : ODD) {
             Check.refused("house", NO_SUCH, () -> x.away(odd, true));
         }
         Check.refused("house 2", NO_SUCH, () -> x.away(2, false));
+        Check.due("what throws is no act", x.count(12), 4);
     }
 
     private static void mirror() {
