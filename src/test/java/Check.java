@@ -1,4 +1,7 @@
+import java.io.IOException;
 import java.nio.charset.StandardCharsets;
+import java.nio.file.Files;
+import java.nio.file.Path;
 import java.util.function.Supplier;
 
 /** What the tests share: telling texts to a street, and noting each answer that is not the one due. */
@@ -11,12 +14,46 @@ final class Check {
     private static int wrong = 0;
     private static int asked = 0;
     private static String part = "";
+    private static String document = "";
 
     private Check() {
     }
 
     static void part(String name) {
         part = name;
+    }
+
+    /** What follows tests this sentence of the document's terms. */
+    static void sentence(String words) {
+        quote(words, words, "## Terms", "## Promise 1:");
+    }
+
+    /** What follows tests this sentence of a promise. */
+    static void promise(int number, String words) {
+        String until = number == 44 ? "## Not promised" : "## Promise " + (number + 1) + ":";
+        quote("promise " + number + ", " + words, words, "## Promise " + number + ":", until);
+    }
+
+    private static void quote(String name, String words, String from, String until) {
+        part(name);
+        asked++;
+        int begin = document().indexOf(from);
+        int end = document().indexOf(until);
+        if (begin < 0 || end < begin || !document().substring(begin, end).contains(words)) {
+            note("the document does not say that");
+        }
+    }
+
+    /** The document, each row of blanks and line ends in it as one blank. */
+    static String document() {
+        if (document.isEmpty()) {
+            try {
+                document = Files.readString(Path.of("../shared/DOC.md")).replaceAll("\\s+", " ");
+            } catch (IOException e) {
+                note("the document cannot be read: " + e);
+            }
+        }
+        return document;
     }
 
     static void due(String what, long got, long want) {
@@ -32,6 +69,21 @@ final class Check {
 
     static void yes(String what, boolean got) {
         due(what, got, true);
+    }
+
+    static void same(String what, String got, String want) {
+        asked++;
+        if (!got.equals(want)) {
+            int at = 0;
+            while (at < got.length() && at < want.length() && got.charAt(at) == want.charAt(at)) {
+                at++;
+            }
+            note(what + ": " + around(got, at) + ", due is " + around(want, at));
+        }
+    }
+
+    private static String around(String text, int at) {
+        return text.substring(Math.max(0, at - 30), Math.min(text.length(), at + 10));
     }
 
     static void note(String text) {
