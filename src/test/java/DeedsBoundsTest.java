@@ -253,6 +253,9 @@ public final class DeedsBoundsTest {
         sure(8, 0, 0, 7, 0);
         sure(8, 0, 0, 7, 9);
         sure(8, 0);
+        sure(1, 0);
+        sure(8, 0, 0, 6, 0);
+        sure(8, 0, 1, 7, 0);
         sure(8, 1, 0, 0, 1);
         sure(8, 128, 7, 7, 1);
         sure(8, 0, 7, 7, 2);

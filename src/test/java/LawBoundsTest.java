@@ -341,6 +341,18 @@ public final class LawBoundsTest {
         Check.due("LINES", y.count(3), -1);
     }
 
+    /** The word behind the mark, with one letter another, or one too few: none of these is a word there. */
+    private static void eachLetter(String marked) {
+        int mark = marked.indexOf('^');
+        int behind = marked.indexOf(' ', mark) < 0 ? marked.length() : marked.indexOf(' ', mark);
+        Told.rightLaw(marked.replace("^", ""), 1);
+        for (int i = mark + 1; i < behind; i++) {
+            Told.wrongLaw(marked.substring(0, i) + "q" + marked.substring(i + 1));
+            Told.wrongLaw(marked.substring(0, i) + marked.substring(i + 1));
+            Told.wrongLaw(marked.substring(0, i) + "A" + marked.substring(i + 1));
+        }
+    }
+
     private static void wordsAndBlanks() {
         Check.sentence("Words are as long as a to z go on; between all there may be blanks (32), also ahead and "
                 + "behind.");
@@ -354,6 +366,19 @@ public final class LawBoundsTest {
         Told.wrongLaw("see if ^notup");
         Told.wrongLaw("see if up ^andup");
         Told.wrongLaw("see if 1 < 2 ^anda up");
+        eachLetter("^see if up");
+        eachLetter("^blind if up");
+        eachLetter("see ^if up");
+        eachLetter("see if ^up");
+        eachLetter("see if ^away");
+        eachLetter("see if ^window");
+        eachLetter("see if ^not up");
+        eachLetter("see if up ^and up");
+        eachLetter("see if up ^or up");
+        for (String part : new String[] {"house", "place", "hour", "apart", "fog", "day"}) {
+            eachLetter("see if ^" + part + " < 1");
+            eachLetter("see if 1 + 1 > 1 + ^" + part);
+        }
         for (char other = 0; other < 256; other++) {
             boolean letter = other >= 'a' && other <= 'z';
             if (other == ' ') {

@@ -15,6 +15,7 @@ public final class MemoryBoundsTest {
         twelveActs();
         daysAreOne();
         asAheadOfIt();
+        fullLog();
         butForTapeFaultImage();
         textsAndGoingBack();
         undoCall();
@@ -186,6 +187,35 @@ public final class MemoryBoundsTest {
             Check.same("act " + n + " UNDONE", Picture.state(x), was[n]);
         }
         Check.due("no more", x.undo(), false);
+    }
+
+    /** Words that were pushed out of a full LOG are in it again. */
+    private static void fullLog() {
+        Check.sentence("all is as ahead of it");
+        AllSawIt x = Told.watched(8, 10);
+        for (int d = 0; d < 10; d++) {
+            x.done(d);
+        }
+        String[] was = new String[80];
+        for (int n = 0; n < 80; n++) {
+            was[n] = Picture.state(x);
+            if (n == 66) {
+                x.image();
+            }
+            x.say(n % 8, n / 8);
+        }
+        for (int n = 79; n >= 68; n--) {
+            x.undo();
+            Check.same("word " + n + " UNDONE", Picture.state(x), was[n]);
+        }
+        x.say(7, 9);
+        x.say(6, 9);
+        x.undo();
+        x.undo();
+        Check.same("other words UNDONE", Picture.state(x), was[68]);
+        x.say(5, 9);
+        x.back();
+        Check.same("gone back", Picture.state(x), was[66]);
     }
 
     private static void butForTapeFaultImage() {

@@ -174,50 +174,24 @@ public final class MemoryTest {
         Check.due("the tape stays", x.end(40), true);
     }
 
-    /** All that an object answers, as one number. */
-    private static long all(AllSawIt x) {
-        long sum = 17;
-        for (int what = 0; what <= 11; what++) {
-            sum = sum * 31 + x.count(what);
-        }
-        for (int h = 0; h < x.count(0); h++) {
-            for (int what = 0; what <= 10; what++) {
-                sum = sum * 31 + x.house(h, what);
-            }
-        }
-        for (int d = 0; d < x.count(1); d++) {
-            for (int what = 0; what <= 8; what++) {
-                sum = sum * 31 + x.deed(d, what);
-            }
-        }
-        for (int ago = 0; ago < x.count(11); ago++) {
-            for (int what = 0; what <= 2; what++) {
-                sum = sum * 31 + x.log(ago, what);
-            }
-        }
-        int seed = x.seed(0);
-        x.seed(seed);
-        return sum * 31 + seed;
-    }
-
     /** Each act, undone, leaves all as it was ahead of it. */
     private static void undoAll() {
         Check.part("promise 41, each act");
         AllSawIt x = Check.street(TWO);
         x.done(0);
-        long[] was = new long[10];
+        String[] was = new String[10];
         Runnable[] acts = {() -> x.done(1), () -> x.say(0, 0), () -> x.away(1, true), () -> x.mirror(0),
             () -> x.up(0, 3, 4), () -> x.spite(0, 4), () -> x.lodger(1), () -> x.away(1, false), () -> x.days(5),
             () -> x.days(60)};
         for (int i = 0; i < acts.length; i++) {
-            was[i] = all(x);
+            was[i] = Picture.state(x);
             acts[i].run();
             Check.due("act " + i + " counts", x.count(12), i + 2);
-            Check.yes("act " + i + " changes something", all(x) != was[i]);
+            Check.yes("act " + i + " changes something", !Picture.state(x).equals(was[i]));
         }
         for (int i = acts.length - 1; i >= 0; i--) {
             Check.due("undone", x.undo(), true);
-            Check.due("act " + i + " undone", all(x), was[i]);
+            Check.same("act " + i + " undone", Picture.state(x), was[i]);
         }
     }
 
@@ -226,12 +200,12 @@ public final class MemoryTest {
         Check.part("promise 41, acts that change nothing");
         AllSawIt x = Check.street(TWO);
         x.mirror(0);
-        long was = all(x);
+        String was = Picture.state(x);
         Runnable[] acts = {() -> x.away(1, false), () -> x.up(0, x.house(0, 3), x.house(0, 4)),
             () -> x.spite(0, x.house(0, 5)), () -> x.away(0, false)};
         for (int i = 0; i < acts.length; i++) {
             acts[i].run();
-            Check.due("idle act " + i + " changes nothing", all(x), was);
+            Check.same("idle act " + i + " changes nothing", Picture.state(x), was);
             Check.due("idle act " + i + " counts", x.count(12), i + 2);
         }
         for (int i = acts.length; i > 0; i--) {
@@ -304,9 +278,9 @@ public final class MemoryTest {
         x.days(1);
         x.mirror(1);
         x.away(0, true);
-        long kept = all(x);
+        String kept = Picture.state(x);
         x.image();
-        Check.due("the image changes nothing", all(x), kept);
+        Check.same("the image changes nothing", Picture.state(x), kept);
         x.undo();
         x.days(7);
         x.lodger(1);
@@ -317,14 +291,14 @@ public final class MemoryTest {
         x.law();
         Check.due("lines", x.count(3), 3);
         x.feed(0, 0, 0, 0, 0);
-        Check.yes("all is new", all(x) != kept);
+        Check.yes("all is new", !Picture.state(x).equals(kept));
         Check.due("back", x.back(), true);
-        Check.due("as it was", all(x), kept);
+        Check.same("as it was", Picture.state(x), kept);
         Check.due("no law", x.count(3), -1);
         Check.due("the tape stays", x.end(20), true);
         x.spite(0, 9);
         Check.due("back once more", x.back(), true);
-        Check.due("as it was", all(x), kept);
+        Check.same("as it was", Picture.state(x), kept);
         Check.tell(x, "see if house > 0");
         x.law();
         x.image();
@@ -384,7 +358,7 @@ public final class MemoryTest {
         for (int i = 2; i < 8; i++) {
             x.lodger(0);
         }
-        long was = all(x);
+        String was = Picture.state(x);
         Class<IllegalStateException> cannot = IllegalStateException.class;
         Class<IllegalArgumentException> number = IllegalArgumentException.class;
         Check.refused("say", cannot, () -> x.say(0, 0));
@@ -398,7 +372,7 @@ public final class MemoryTest {
         Check.refused("trial", number, () -> x.trial(41, true));
         Check.refused("done", NO_SUCH, () -> x.done(3));
         Check.refused("away", NO_SUCH, () -> x.away(8, true));
-        Check.due("all as it was", all(x), was);
+        Check.same("all as it was", Picture.state(x), was);
         Check.due("acts as they were", x.count(12), 12);
         Check.due("undone", x.undo(), true);
         Check.due("houses", x.count(0), 7);

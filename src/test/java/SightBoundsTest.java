@@ -20,6 +20,7 @@ public final class SightBoundsTest {
         eyes();
         share();
         alone();
+        housesThatAreNot();
         Check.end();
     }
 
@@ -76,6 +77,10 @@ public final class SightBoundsTest {
         AllSawIt y = byLaw(8, "see if place > 22;see if house > 0");
         Check.due("one that does not SEE is enough", y.open(23, false), 1 << 23);
         Check.due("one that SEES is enough", y.open(23, true), 0);
+        Check.due("the first that SEES is enough", byLaw(8, "see if house < 1").open(23, true), 0);
+        Check.due("the last that SEES is enough", byLaw(8, "see if house > 6").open(23, true), 0);
+        Check.due("the first that does not SEE is enough", byLaw(8, "see if house > 0").open(23, false), 0);
+        Check.due("the last that does not SEE is enough", byLaw(8, "see if house < 7").open(23, false), 0);
         Check.due("OPEN for all", Told.watched(8, 0).open(23, false), ALL);
         AllSawIt asleep = byLaw(3, "see if up");
         asleep.up(1, 1, 23);
@@ -124,6 +129,12 @@ public final class SightBoundsTest {
         String was = Picture.all(all);
         Check.due("all are AWAY", all.wake(23, 23), 255);
         Check.same("nobody is woken by asking", Picture.all(all), was);
+        for (int h = 0; h < 8; h++) {
+            all.away(h, false);
+            all.up(h, 0, 23);
+        }
+        Check.due("all are asleep", all.wake(23, 23), 255);
+        Check.due("an HOUR ahead all are UP", all.wake(23, 22), 0);
         AllSawIt odd = byLaw(2, "see if not up;see if away");
         odd.away(0, true);
         Check.due("who SEES as it is AWAY, or sleeps, is not woken", odd.wake(0, 0), 0);
@@ -358,5 +369,40 @@ public final class SightBoundsTest {
         Refusal.answered("NONE", a -> a.alone(0, -1));
         Refusal.noSuch("below NONE", a -> a.alone(0, -2));
         Refusal.noSuch("no such HOUR, NONE", a -> a.alone(24, -1));
+    }
+
+    /** By this law all HOUSES would SEE all, but for those that are there. */
+    private static void housesThatAreNot() {
+        Check.sentence("as each HOUSE that there is (one at least)");
+        for (int houses = 0; houses <= 7; houses++) {
+            AllSawIt x = byLaw(houses, houses == 0 ? "see" : "see if house > " + (houses - 1));
+            Check.tell(x, "deed 0 at 0");
+            x.street();
+            Check.due("WITNESSES", x.witnesses(0, 0), 0);
+            Check.due("OPEN", x.open(0, false), 0);
+            Check.due("DARK", x.open(0, true), ALL);
+            Check.due("BEST", x.best(), houses == 0 ? -1 : 0);
+            Check.due("WAKE", x.wake(0, 0), 0);
+            Check.due("FEWEST MIRRORS", x.mirrors(0, 0), houses == 0 ? 0 : -1);
+            Check.due("UNSEEN", x.unseen(0), 24);
+            Check.due("THIEF", x.thief(0, 23, 0), 0);
+            Check.due("CLEAR", x.clear(0, 0), -1);
+            Check.due("TWINS", x.twins(), houses * (houses - 1) / 2);
+            Check.due("EYES", x.eyes(0), 0);
+            Check.due("ALONE", x.alone(0, -1), 0);
+            Check.due("DONE", x.done(0), 0);
+            Check.due("words", x.days(3), 0);
+            Check.due("SAW", x.deed(0, 3), 0);
+            Check.due("HALF", x.book(true), 0);
+            Check.due("AHEAD", x.ahead(3, 0), 0);
+        }
+        AllSawIt y = byLaw(3, "see");
+        Check.tell(y, "deed 0 at 0");
+        y.street();
+        Check.due("WITNESSES that are", y.witnesses(0, 0), 7);
+        y.days(1);
+        Check.due("SAW by those that are", y.deed(0, 3), 7);
+        Check.due("SAID by those that are", y.deed(0, 4), 7);
+        Check.due("SO", y.book(false), 1);
     }
 }

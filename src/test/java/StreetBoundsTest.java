@@ -287,6 +287,9 @@ public final class StreetBoundsTest {
             Told.wrongStreet(told + " ^" + (number ? "-" + things[n] : things[n] + "x"), ahead);
             Told.wrongStreet(told + " ^" + (number ? "1000" : things[n].substring(1)), ahead);
             Told.wrongStreet(told + " ^?", ahead);
+            for (int i = 0; i < things[n].length() && !number; i++) {
+                Told.wrongStreet(told + " ^" + things[n].substring(0, i) + "q" + things[n].substring(i + 1) + " 1", ahead);
+            }
             told.append(n > 0 ? " " : "").append(things[n]);
             if (n + 1 == mayEnd) {
                 Told.rightStreet(told.toString(), ahead);
