@@ -21,6 +21,7 @@ public final class SightBoundsTest {
         share();
         alone();
         housesThatAreNot();
+        placesAndHoursThatAreNot();
         Check.end();
     }
 
@@ -369,6 +370,27 @@ public final class SightBoundsTest {
         Refusal.answered("NONE", a -> a.alone(0, -1));
         Refusal.noSuch("below NONE", a -> a.alone(0, -2));
         Refusal.noSuch("no such HOUR, NONE", a -> a.alone(24, -1));
+    }
+
+    /** By these laws one would SEE a PLACE or an HOUR behind the last alone. */
+    private static void placesAndHoursThatAreNot() {
+        Check.sentence("PLACES 0 to 23 along the street, HOURS 0 to 23.");
+        for (String behind : new String[] {"place > 23", "hour > 23"}) {
+            AllSawIt x = byLaw(2, "see if house < 1 and " + behind);
+            Check.due("BEST by " + behind, x.best(), 0);
+            Check.due("TWINS by " + behind, x.twins(), 1);
+            Check.due("SHARE by " + behind, x.house(0, 10), 0);
+            Check.due("DARK by " + behind, x.open(23, true), ALL);
+            Check.due("EYES by " + behind, x.eyes(23), 0);
+            Check.due("ALONE by " + behind, x.alone(23, -1), 0);
+            Check.due("UNSEEN by " + behind, x.unseen(23), 24);
+            Check.due("THIEF by " + behind, x.thief(0, 23, 23), 0);
+            AllSawIt y = byLaw(2, "see;blind if " + behind);
+            Check.due("OPEN by all but " + behind, y.open(23, false), ALL);
+            Check.due("SHARE by all but " + behind, y.house(1, 10), 100);
+            Check.due("THIEF by all but " + behind, y.thief(0, 23, 23), 48);
+            Check.due("UNSEEN by all but " + behind, y.unseen(23), 0);
+        }
     }
 
     /** By this law all HOUSES would SEE all, but for those that are there. */
