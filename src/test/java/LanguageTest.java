@@ -23,7 +23,7 @@ public final class LanguageTest {
     private LanguageTest() {
     }
 
-    public static void main(String[] args) throws IOException {
+    public static void main(String[] args) throws IOException, ReflectiveOperationException {
         face();
         classes();
         source();
@@ -42,7 +42,7 @@ public final class LanguageTest {
         return all.toString();
     }
 
-    private static void face() throws IOException {
+    private static void face() throws IOException, ReflectiveOperationException {
         Check.part("the face");
         Set<String> want = new TreeSet<>();
         Pattern row = Pattern.compile("^    public (\\w+) (\\w+)\\((.*?)\\)(?: throws (.*))?;$", Pattern.MULTILINE);
@@ -72,6 +72,10 @@ public final class LanguageTest {
         for (Field f : AllSawIt.class.getDeclaredFields()) {
             Check.yes("field " + f.getName(), Modifier.isPrivate(f.getModifiers()) || f.getName().equals("NONE"));
         }
+        Field none = AllSawIt.class.getField("NONE");
+        Check.yes("NONE is static, final, an int", Modifier.isStatic(none.getModifiers())
+                && Modifier.isFinal(none.getModifiers()) && none.getType() == int.class);
+        Check.due("NONE", none.getInt(null), -1);
         Constructor<?>[] made = AllSawIt.class.getDeclaredConstructors();
         Check.due("constructors", made.length, 1);
         Check.yes("it is public, without parameters", Modifier.isPublic(made[0].getModifiers())
